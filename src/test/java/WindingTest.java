@@ -185,6 +185,17 @@ public final class WindingTest {
         due.is("12: crossing at 29/3, not right of 10", fill.winding(10, 29), 0);
         due.is("12: crossing at 0 itself", fill.winding(0, 0), 0);
 
+        // The same edge away from the borders, from (3, 7) to (13, 37): crossing at 3 + (y - 7) / 3.
+        PolygonFill away = new PolygonFill();
+        Shapes.contour(away, 3, 7, 13, 37, 3, 37);
+        due.is("12: crossing at 10/3, strictly right of 3", away.winding(3, 8), 1);
+        due.is("12: crossing at 10/3, not right of 4", away.winding(4, 8), 0);
+        due.is("12: crossing at 4, not right of 4", away.winding(4, 10), 0);
+        due.is("12: crossing at 13/3, strictly right of 4", away.winding(4, 11), 1);
+        due.is("12: crossing at 38/3, strictly right of 12", away.winding(12, 36), 1);
+        due.is("12: crossing at 38/3, not right of 13", away.winding(13, 36), 0);
+        due.is("12: left of both edges", away.winding(2, 20), 0);
+
         // The other slant and the other direction: from (10, 30) to (20, 0), crossing at 20 - y / 3.
         PolygonFill back = new PolygonFill();
         Shapes.contour(back, 10, 30, 20, 0, 0, 0);
