@@ -27,6 +27,19 @@ final class Shapes {
         contour(fill, left, top, left, bottom, right, bottom, right, top);
     }
 
+    /** A shape that holds those samples of one pixel, of all points, whose bits are set: 0 to 15. */
+    static Consumer<PolygonFill> samples(int row, int column, int bits) {
+        return fill -> {
+            for (int i = 0; i < 4; i++) {
+                if ((bits >> i & 1) == 1) {
+                    int x = 4 * column + 1 + i % 2 * 2;
+                    int y = 4 * row + 1 + i / 2 * 2;
+                    contour(fill, x, y, x + 1, y, x, y + 1);
+                }
+            }
+        };
+    }
+
     static PolygonFill after(Consumer<PolygonFill> run) {
         PolygonFill fill = new PolygonFill();
         run.accept(fill);
