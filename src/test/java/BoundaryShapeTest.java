@@ -57,6 +57,8 @@ public final class BoundaryShapeTest {
         State.fourContoursTwelveCorners(older);
         due.holds("1: a new object beside an older one", State.of(f -> { }).equals(before));
         due.is("1: the older one stays full", older.begin(1, 1), PolygonFill.FULL);
+        State.STATES.forEach((name, run) -> due.holds("1: an object made later leaves the older as it is, " + name,
+            State.of(run.andThen(f -> State.paintedShape(new PolygonFill()))).equals(State.of(run))));
     }
 
     // "x or y not in 0 to 64: BAD_POINT; ... nothing changes then."
@@ -331,10 +333,12 @@ public final class BoundaryShapeTest {
         due.holds("5: twelve corners in four contours",
             State.of(inContours(points, 3).andThen(PolygonFill::mirror))
                 .equals(State.of(inContours(exchanged(points), 3))));
-        due.holds("5: the raster stays", Shapes.pixels(f -> {
-            State.paintedShape(f);
-            f.mirror();
-        }).equals(Shapes.pixels(State::paintedShape)));
+        State.STATES.forEach((name, before) -> {
+            Consumer<PolygonFill> twice = before.andThen(PolygonFill::mirror).andThen(PolygonFill::mirror);
+            due.holds("5: twice is not at all, " + name, State.of(twice).equals(State.of(before)));
+            due.holds("5: the raster stays, " + name,
+                State.pixels(before.andThen(PolygonFill::mirror)).equals(State.pixels(before)));
+        });
     }
 
     private static void promise5MirrorsTheBorders() {
@@ -362,7 +366,7 @@ public final class BoundaryShapeTest {
             due.holds("6: " + name + ", windings",
                 Shapes.windings(before.andThen(PolygonFill::clear)).equals("0 ".repeat(65 * 65)));
             due.holds("6: " + name + ", the raster stays",
-                Shapes.pixels(before.andThen(PolygonFill::clear)).equals(Shapes.pixels(before)));
+                State.pixels(before.andThen(PolygonFill::clear)).equals(State.pixels(before)));
             due.holds("6: " + name + ", clear twice",
                 State.of(before.andThen(PolygonFill::clear).andThen(PolygonFill::clear))
                     .equals(State.of(before.andThen(PolygonFill::clear))));

@@ -25,6 +25,7 @@ public final class BoundaryTermsTest {
         edgesMeetingAtACornerCountOnce();
         edgeCountsOnlyStrictlyToTheRight();
         edgeIsStrictByTheSmallestFraction();
+        edgeIsStrictAtEveryHeightAndSlant();
         nonzeroIsEveryWindingButZero();
         coverageIsZeroToFour();
         due.end();
@@ -443,6 +444,38 @@ public final class BoundaryTermsTest {
                 due.is(64 - y + "/64 right of " + (high - 1) + ", edge up", up.winding(high - 1, y), -1);
             }
         }
+    }
+
+    private static void edgeIsStrictAtEveryHeightAndSlant() {
+        for (int top : new int[] {0, 1, 22, 41}) {
+            for (int height : new int[] {1, 2, 3, 10, 23}) {
+                for (int width = -31; width <= 31; width += 2) {
+                    lastPointLeftOfASlant(32, top, width, height);
+                }
+            }
+        }
+    }
+
+    /** On each height of an edge, the last point that has the edge strictly to its right, and the next one. */
+    private static void lastPointLeftOfASlant(int x, int top, int width, int height) {
+        int bottom = top + height;
+        PolygonFill down = new PolygonFill();
+        Shapes.contour(down, x, top, x + width, bottom, 0, bottom, 0, top);
+        PolygonFill up = new PolygonFill();
+        Shapes.contour(up, x + width, bottom, x, top, 0, top, 0, bottom);
+        for (int y = top; y < bottom; y++) {
+            // The edge is at x + (y - top) * width / height; a whole number there is itself no longer left of it.
+            int last = x + Math.floorDiv((y - top) * width - 1, height);
+            String name = "edge (" + x + ", " + top + "), (" + (x + width) + ", " + bottom + "), height " + y;
+            due.is(name + ", down, at " + last, down.winding(last, y), 1);
+            due.is(name + ", down, at " + (last + 1), down.winding(last + 1, y), 0);
+            due.is(name + ", up, at " + last, up.winding(last, y), -1);
+            due.is(name + ", up, at " + (last + 1), up.winding(last + 1, y), 0);
+        }
+        due.is("above the edge from " + top, down.winding(0, top - 1), 0);
+        due.is("at the lower end " + bottom, down.winding(0, bottom), 0);
+        due.is("above the edge up to " + top, up.winding(0, top - 1), 0);
+        due.is("at the lower end " + bottom + ", edge up", up.winding(0, bottom), 0);
     }
 
     // "INSIDE by the rule NONZERO if its winding is not 0, by the rule ODD if its winding is odd"

@@ -28,7 +28,6 @@ final class State {
     }
 
     static void paintedShape(PolygonFill fill) {
-        fill.wipe(255);
         Shapes.contour(fill, 3, 5, 60, 11, 41, 63, 20, 30);
         fill.paint(90, true);
         Shapes.contour(fill, 10, 8, 22, 50, 9, 33);
@@ -37,7 +36,6 @@ final class State {
 
     /** Full by its contours alone: eight corners. */
     static void fourContours(PolygonFill fill) {
-        fill.wipe(40);
         fill.begin(7, 50);
         Shapes.contour(fill, 50, 7, 55, 20);
         fill.begin(33, 33);
@@ -47,7 +45,6 @@ final class State {
 
     /** Full by its corners alone: two contours. */
     static void twelveCorners(PolygonFill fill) {
-        fill.wipe(3);
         Shapes.contour(fill, 5, 5, 30, 9, 28, 31, 6, 29);
         Shapes.contour(fill, 20, 20, 40, 18, 58, 25, 59, 44, 50, 58, 35, 57, 25, 50, 18, 35);
         fill.paint(255, false);
@@ -55,7 +52,6 @@ final class State {
 
     /** Full in both ways. */
     static void fourContoursTwelveCorners(PolygonFill fill) {
-        fill.wipe(128);
         Shapes.contour(fill, 4, 4, 30, 6, 9, 29);
         Shapes.contour(fill, 60, 5, 58, 30, 35, 9);
         Shapes.contour(fill, 5, 60, 8, 35, 29, 57);
@@ -73,12 +69,17 @@ final class State {
             f.corner(0, 64);
             f.corner(64, 3);
         });
-        return "pixels " + Shapes.pixels(run)
+        return "pixels " + pixels(run)
             + "windings " + Shapes.windings(run)
             + "mirrored " + Shapes.windings(run.andThen(PolygonFill::mirror))
             + "longer " + Shapes.windings(longer)
             + "counts " + counts(run)
             + "ways " + way(run, 1, 0) + way(run, -1, 0) + way(run, 0, 1) + way(run, 0, -1);
+    }
+
+    /** The raster after a run on a new object, and after the same run over many colours. */
+    static String pixels(Consumer<PolygonFill> run) {
+        return Shapes.pixels(run) + "over many colours " + Shapes.pixels(manyColours().andThen(run));
     }
 
     /** A call that is refused, or that only asks: its answer is due, and all is as before. */
@@ -96,6 +97,24 @@ final class State {
             due.holds(name + ": " + call + " changes nothing",
                 of(before.andThen(asked::applyAsInt)).equals(text));
         });
+    }
+
+    /** A raster in which a pixel that changes places with a neighbour is seen, and no shape. */
+    private static Consumer<PolygonFill> manyColours() {
+        return fill -> {
+            Shapes.rectangle(fill, 0, 0, 4, 64);
+            for (int column = 0; column < 16; column++) {
+                fill.paint(255 - 15 * column, false);
+                fill.move(4, 0);
+            }
+            fill.clear();
+            Shapes.rectangle(fill, 0, 0, 64, 2);
+            for (int row = 0; row < 16; row++) {
+                fill.paint((row * 53 + 20) % 256, false);
+                fill.move(0, 4);
+            }
+            fill.clear();
+        };
     }
 
     private static String counts(Consumer<PolygonFill> run) {
